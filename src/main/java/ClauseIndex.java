@@ -1557,6 +1557,7 @@ public final class ClauseIndex {
     private static final class Parting {
         private final int[][] notAbove = new int[FEATURES][MOST_KEPT];
         private final int[] left = new int[MOST_KEPT];
+        private final int[] values = new int[MOST_KEPT];
         private final int[] powers = new int[FEATURES];
         private int leftByTwo;
         private int lowerOfTwo;
@@ -1564,12 +1565,12 @@ public final class ClauseIndex {
 
         /** How many two clauses have unlike values. */
         int unlike(State state, int feature, int mode) {
+            readValues(state, feature, mode);
             int found = 0;
             for (int a = 0; a < MOST_KEPT; a++) {
-                Clause c = state.clause(a);
-                for (int b = 0; c != null && b < a; b++) {
-                    Clause d = state.clause(b);
-                    if (d != null && c.measure(feature, mode) != d.measure(feature, mode)) {
+                int mine = values[a];
+                for (int b = 0; mine != NONE && b < a; b++) {
+                    if (values[b] != NONE && values[b] != mine) {
                         found++;
                     }
                 }
@@ -1673,16 +1674,25 @@ public final class ClauseIndex {
             if (!isFeature(feature)) {
                 return;
             }
-            for (int a = 0; a < MOST_KEPT; a++) {
-                Clause c = state.clause(a);
+            readValues(state, feature, mode);
+            int[] row = notAbove[feature];
+            for (int a = 0; a < MOST_KEPT && a < row.length; a++) {
+                int mine = values[a];
                 int bits = 0;
-                for (int b = 0; c != null && b < MOST_KEPT; b++) {
-                    Clause d = state.clause(b);
-                    if (d != null && c.measure(feature, mode) <= d.measure(feature, mode)) {
+                for (int b = 0; mine != NONE && b < MOST_KEPT; b++) {
+                    if (mine <= values[b]) {
                         bits |= 1 << b;
                     }
                 }
-                notAbove[feature][a] = bits;
+                row[a] = bits;
+            }
+        }
+
+        /** The values of one feature, NONE where no clause is kept: no value is below it. */
+        private void readValues(State state, int feature, int mode) {
+            for (int k = 0; k < MOST_KEPT; k++) {
+                Clause c = state.clause(k);
+                values[k] = c == null ? NONE : c.measure(feature, mode);
             }
         }
 
@@ -1694,16 +1704,18 @@ public final class ClauseIndex {
         }
 
         private void narrow(int feature) {
-            for (int a = 0; a < MOST_KEPT && isFeature(feature); a++) {
-                left[a] &= notAbove[feature][a];
+            int[] row = isFeature(feature) ? notAbove[feature] : left;
+            for (int a = 0; a < MOST_KEPT && a < row.length; a++) {
+                left[a] &= row[a];
             }
         }
 
         /** How many pairs would be left with one feature more, or, if that is NONE, are left now. */
         private int leftWith(int feature) {
+            int[] row = isFeature(feature) ? notAbove[feature] : left;
             int sum = 0;
-            for (int a = 0; a < MOST_KEPT; a++) {
-                sum += Integer.bitCount(isFeature(feature) ? left[a] & notAbove[feature][a] : left[a]);
+            for (int a = 0; a < MOST_KEPT && a < row.length; a++) {
+                sum += Integer.bitCount(left[a] & row[a]);
             }
             return sum;
         }
