@@ -47,8 +47,8 @@ public final class ClauseIndex {
     private final Tree tree = new Tree();
     private final Parting parting = new Parting();
     private final History history = new History();
-    private final Relation bySets = new Relation(0);
-    private final Relation byNumbers = new Relation(1);
+    private final Relation bySets = new Relation();
+    private final Relation byNumbers = new Relation();
     private final State now = new State();
     private final State[] pictures = new State[IMAGES];
     private final Clause[] picturedQueries = new Clause[IMAGES];
@@ -593,7 +593,7 @@ public final class ClauseIndex {
 
     /** Mode 0 tells only whether something is there, but for depths. */
     private static int byMode(int feature, int value, int mode) {
-        return mode == 0 && feature < DEPTHS_OF_SYMBOLS ? Math.min(value, 1) : value;
+        return mode == 0 && feature < DEPTHS_OF_SYMBOLS && value > 1 ? 1 : value;
     }
 
     private static boolean isVariable(int code) {
@@ -606,17 +606,6 @@ public final class ClauseIndex {
             return 0;
         }
         return code == FUNCTIONS_OF_TWO ? 2 : 1;
-    }
-
-    private static int behindTerm(int[] codes, int size, int start) {
-        int open = 1;
-        int p = Math.max(start, 0);
-        int end = Math.min(size, codes.length);
-        while (open > 0 && p < end) {
-            open += termsBehind(codes[p]) - 1;
-            p++;
-        }
-        return p;
     }
 
     private Clause clauseOf(int k) {
@@ -642,9 +631,22 @@ public final class ClauseIndex {
         byNumbers.forget();
     }
 
+    /** Which clauses kept cover which: judged anew only if they have changed. */
     private Relation relation(int mode) {
         Relation relation = mode == 0 ? bySets : byNumbers;
-        relation.learn(now, matcher);
+        if (relation.isKnown()) {
+            return relation;
+        }
+        relation.begin(now.numbers());
+        for (int a = 0; a < MOST_KEPT; a++) {
+            Clause c = now.clause(a);
+            for (int b = 0; c != null && b < MOST_KEPT; b++) {
+                Clause d = now.clause(b);
+                if (b != a && d != null && matcher.findsFirst(c, d, mode)) {
+                    relation.note(a, b);
+                }
+            }
+        }
         return relation;
     }
 
@@ -747,7 +749,7 @@ public final class ClauseIndex {
         return false;
     }
 
-    /** The bits of the float nearest to a quotient from 0 to 1, of two as near the even one. */
+    /** The bits of the float nearest to a quotient from 0 to 1; of numbers this small none is as near to two. */
     private static int floatBits(int above, int below) {
         if (above <= 0 || below <= 0) {
             return 0;
@@ -759,8 +761,7 @@ public final class ClauseIndex {
             shift++;
         }
         long quotient = scaled / below;
-        long twice = 2 * (scaled % below);
-        if (twice > below || twice == below && (quotient & 1) == 1) {
+        if (2 * (scaled % below) > below) {
             quotient++;
         }
         return (127 + 23 - shift << 23) + (int) (quotient - (1L << 23));
@@ -770,6 +771,7 @@ public final class ClauseIndex {
     private static final class Clause {
         private final int[] codes;
         private final int[] depths;
+        private final int[] ends;
         private final int[] starts;
         private final int[] measures = new int[FEATURES];
 
@@ -777,9 +779,11 @@ public final class ClauseIndex {
             int size = draft.size();
             codes = new int[size];
             depths = new int[size];
+            ends = new int[size];
             for (int p = 0; p < size; p++) {
                 codes[p] = draft.codeAt(p);
                 depths[p] = draft.depthAt(p);
+                ends[p] = draft.endOfTerm(p);
             }
             starts = startsOf(codes);
             measureAll(codes, depths, measures);
@@ -850,7 +854,7 @@ public final class ClauseIndex {
         }
 
         int endOfTerm(int start) {
-            return behindTerm(codes, codes.length, start);
+            return start >= 0 && start < ends.length ? ends[start] : codes.length;
         }
 
         int variableBits() {
@@ -867,17 +871,17 @@ public final class ClauseIndex {
             return isFeature(feature) ? byMode(feature, measures[feature], mode) : 0;
         }
 
+        /** Whether as many symbols from p and from q on are the same. */
         boolean sameRun(int p, int q, int size) {
+            if (p < 0 || q < 0 || p + size > codes.length || q + size > codes.length) {
+                return false;
+            }
             for (int i = 0; i < size; i++) {
-                if (codeAt(p + i) != codeAt(q + i)) {
+                if (codes[p + i] != codes[q + i]) {
                     return false;
                 }
             }
             return true;
-        }
-
-        boolean sameTerm(int p, int q) {
-            return sameRun(p, q, endOfTerm(p) - p);
         }
 
         /** Whether two literals are the same but for the sign of one. */
@@ -975,8 +979,15 @@ public final class ClauseIndex {
             return found;
         }
 
+        /** The place behind the term that begins at a place. */
         int endOfTerm(int start) {
-            return behindTerm(codes, size, start);
+            int open = 1;
+            int p = Math.max(start, 0);
+            while (open > 0 && p < size) {
+                open += termsBehind(codeAt(p)) - 1;
+                p++;
+            }
+            return p;
         }
 
         /** Where literal i begins; behind the last one, where the draft ends. */
@@ -1031,7 +1042,24 @@ public final class ClauseIndex {
 
         boolean readClause(int n) {
             begin(n);
-            return n == 0 || readLiterals();
+            if (end == 0) {
+                return true;
+            }
+            for (int i = 1; i <= MOST_LITERALS; i++) {
+                if (!readLiteral()) {
+                    return false;
+                }
+                if (here == end) {
+                    return true;
+                }
+                if (look() != '|') {
+                    return fail(FAULT_BYTE);
+                }
+                if (i < MOST_LITERALS) {
+                    here++;
+                }
+            }
+            return fail(FAULT_LITERALS);
         }
 
         boolean readPut(int n) {
@@ -1069,24 +1097,6 @@ public final class ClauseIndex {
             }
             here++;
             return true;
-        }
-
-        private boolean readLiterals() {
-            for (int i = 1; i <= MOST_LITERALS; i++) {
-                if (!readLiteral()) {
-                    return false;
-                }
-                if (here == end) {
-                    return true;
-                }
-                if (i == MOST_LITERALS && look() == '|') {
-                    return fail(FAULT_LITERALS);
-                }
-                if (!expect('|')) {
-                    return false;
-                }
-            }
-            return false;
         }
 
         private boolean readLiteral() {
@@ -1158,25 +1168,29 @@ public final class ClauseIndex {
 
         boolean findsFirst(Clause c, Clause d, int mode) {
             aim(c, mode == 1);
-            return search(c, d, 0, allOf(d)) > 0;
+            settle(c, d, 0, allOf(d));
+            return found > 0;
         }
 
         int countAll(Clause c, Clause d, int mode) {
             aim(c, mode == 1);
             enough = ENDLESS;
-            return search(c, d, 0, allOf(d));
+            settle(c, d, 0, allOf(d));
+            return found;
         }
 
         boolean findsForOne(Clause c, int i, Clause d) {
             aim(c, false);
             last = i;
-            return search(c, d, i, allOf(d)) > 0;
+            settle(c, d, i, allOf(d));
+            return found > 0;
         }
 
         /** Whether c covers those literals of d alone that the bits tell. */
         boolean findsAmong(Clause c, Clause d, int bits) {
             aim(c, false);
-            return search(c, d, 0, bits) > 0;
+            settle(c, d, 0, bits);
+            return found > 0;
         }
 
         boolean findsRenaming(Clause c, Clause d) {
@@ -1185,7 +1199,8 @@ public final class ClauseIndex {
             }
             aim(c, true);
             renaming = true;
-            return search(c, d, 0, allOf(d)) > 0;
+            settle(c, d, 0, allOf(d));
+            return found > 0;
         }
 
         /** Which literal of d the i-th one of c is by the way found. */
@@ -1211,13 +1226,8 @@ public final class ClauseIndex {
             renaming = false;
             last = c.size() - 1;
             enough = 1;
-        }
-
-        private int search(Clause c, Clause d, int first, int free) {
             found = 0;
             put = 0;
-            settle(c, d, first, free);
-            return found;
         }
 
         /** Tries places for literal i and those behind it; as soon as enough is found, all stays as it is then. */
@@ -1247,24 +1257,24 @@ public final class ClauseIndex {
             int q = d.start(j);
             for (int p = c.start(i); p < end; p++) {
                 int code = c.codeAt(p);
+                int behind = q + 1;
                 if (isVariable(code)) {
-                    if (!fitsVariable(d, code - FIRST_VARIABLE, q)) {
+                    behind = d.endOfTerm(q);
+                    if (!binds(d, code - FIRST_VARIABLE, q, behind)) {
                         return false;
                     }
-                    q = d.endOfTerm(q);
-                } else {
-                    if (code != d.codeAt(q)) {
-                        return false;
-                    }
-                    q++;
+                } else if (code != d.codeAt(q)) {
+                    return false;
                 }
+                q = behind;
             }
             return true;
         }
 
-        private boolean fitsVariable(Clause d, int v, int q) {
+        /** Whether the term of d from q on is, or can now be, what is put for a variable. */
+        private boolean binds(Clause d, int v, int q, int behind) {
             if (isPut(v)) {
-                return d.sameTerm(terms[v], q);
+                return d.sameRun(terms[v], q, behind - q);
             }
             if (v < 0 || v >= VARIABLES || renaming && !isFreeName(d, d.codeAt(q))) {
                 return false;
@@ -1274,13 +1284,14 @@ public final class ClauseIndex {
             return true;
         }
 
+        /** Whether a code is a variable's that is put for none yet. */
         private boolean isFreeName(Clause d, int code) {
             for (int v = 0; v < VARIABLES; v++) {
-                if (isPut(v) && d.codeAt(terms[v]) == code) {
+                if ((put >> v & 1) == 1 && d.codeAt(terms[v]) == code) {
                     return false;
                 }
             }
-            return isVariable(code);
+            return code >= FIRST_VARIABLE;
         }
     }
 
@@ -1721,58 +1732,37 @@ public final class ClauseIndex {
         }
     }
 
-    /** Which clauses kept cover which others by one mode; judged once as long as these stay what they are. */
+    /** Which clauses kept cover which others by one mode, as bits. */
     private static final class Relation {
-        private final int mode;
         private final int[] covered = new int[MOST_KEPT];
-        private final int[] lessGeneral = new int[MOST_KEPT];
+        private final int[] coverers = new int[MOST_KEPT];
         private final int[] lengths = new int[MOST_KEPT];
         private final int[] row = new int[MOST_KEPT];
         private int all;
         private boolean known;
 
-        Relation(int mode) {
-            this.mode = mode;
+        boolean isKnown() {
+            return known;
         }
 
         void forget() {
             known = false;
         }
 
-        void learn(State state, Matcher matcher) {
-            if (known) {
-                return;
-            }
+        void begin(int numbers) {
             known = true;
-            all = state.numbers();
-            for (int a = 0; a < MOST_KEPT; a++) {
-                covered[a] = coveredBy(a, state, matcher);
-            }
-            for (int a = 0; a < MOST_KEPT; a++) {
-                lessGeneral[a] = covered[a] & ~coverersOf(a);
+            all = numbers;
+            for (int k = 0; k < MOST_KEPT; k++) {
+                covered[k] = 0;
+                coverers[k] = 0;
             }
         }
 
-        private int coveredBy(int a, State state, Matcher matcher) {
-            Clause c = state.clause(a);
-            int bits = 0;
-            for (int b = 0; c != null && b < MOST_KEPT; b++) {
-                Clause d = state.clause(b);
-                if (b != a && d != null && matcher.findsFirst(c, d, mode)) {
-                    bits |= 1 << b;
-                }
+        void note(int a, int b) {
+            if (a >= 0 && a < MOST_KEPT && b >= 0 && b < MOST_KEPT) {
+                covered[a] |= 1 << b;
+                coverers[b] |= 1 << a;
             }
-            return bits;
-        }
-
-        private int coverersOf(int b) {
-            int bits = 0;
-            for (int a = 0; a < MOST_KEPT; a++) {
-                if ((covered[a] >> b & 1) == 1) {
-                    bits |= 1 << a;
-                }
-            }
-            return bits;
         }
 
         /** How many ordered pairs there are of which the one covers the other one. */
@@ -1788,8 +1778,7 @@ public final class ClauseIndex {
             int bits = 0;
             for (int k = 0; k < MOST_KEPT; k++) {
                 int lower = (1 << k) - 1;
-                int others = coverersOf(k);
-                if ((others & (~covered[k] | lower)) != 0) {
+                if ((coverers[k] & (~covered[k] | lower)) != 0) {
                     bits |= 1 << k;
                 }
             }
@@ -1797,9 +1786,11 @@ public final class ClauseIndex {
         }
 
         int mostGeneral() {
-            int bits = all;
-            for (int a = 0; a < MOST_KEPT; a++) {
-                bits &= ~lessGeneral[a];
+            int bits = 0;
+            for (int k = 0; k < MOST_KEPT; k++) {
+                if ((all >> k & 1) == 1 && (coverers[k] & ~covered[k]) == 0) {
+                    bits |= 1 << k;
+                }
             }
             return bits;
         }
@@ -1808,7 +1799,7 @@ public final class ClauseIndex {
             int found = 0;
             for (int k = 0; k < MOST_KEPT; k++) {
                 int lower = (1 << k) - 1;
-                if ((all >> k & 1) == 1 && (covered[k] & coverersOf(k) & lower) == 0) {
+                if ((all >> k & 1) == 1 && (covered[k] & coverers[k] & lower) == 0) {
                     found++;
                 }
             }
@@ -1824,7 +1815,7 @@ public final class ClauseIndex {
                 int k = firstOfLongest(from);
                 row[i] = k;
                 size++;
-                from = lessGeneral[k];
+                from = covered[k] & ~coverers[k];
             }
             return size;
         }
@@ -1833,7 +1824,7 @@ public final class ClauseIndex {
             return i >= 0 && i < MOST_KEPT ? row[i] : NONE;
         }
 
-        /** No clause is more general than itself in a roundabout way, so the lengths settle in as many rounds. */
+        /** No clause is more general than itself in a roundabout way, so as many rounds are enough. */
         private void measureRows() {
             for (int a = 0; a < MOST_KEPT; a++) {
                 lengths[a] = 1;
@@ -1842,10 +1833,8 @@ public final class ClauseIndex {
             for (int round = 0; round < MOST_KEPT && grown; round++) {
                 grown = false;
                 for (int a = 0; a < MOST_KEPT; a++) {
-                    if (lessGeneral[a] == 0) {
-                        continue;
-                    }
-                    int length = 1 + lengths[firstOfLongest(lessGeneral[a])];
+                    int lessGeneral = covered[a] & ~coverers[a];
+                    int length = lessGeneral == 0 ? 1 : 1 + lengths[firstOfLongest(lessGeneral)];
                     if (length > lengths[a]) {
                         lengths[a] = length;
                         grown = true;

@@ -8,7 +8,10 @@ import java.nio.file.Path;
 import java.util.ArrayList;
 import java.util.HashSet;
 import java.util.List;
+import java.util.Map;
 import java.util.Set;
+import java.util.TreeMap;
+import java.util.TreeSet;
 import java.util.regex.Matcher;
 import java.util.regex.Pattern;
 
@@ -103,6 +106,41 @@ public final class LanguageTest {
             check(Set.of("bitCount", "max", "min", "floorMod").contains(library.group(2)), "4: " + library.group());
         }
         lengths(text.split("\n"));
+        depths(code.split("\n"));
+    }
+
+    /** Who calls whom, by names alone; calls that come back to a method that is open are recursion and not counted. */
+    private static void depths(String[] lines) {
+        Map<String, StringBuilder> bodies = new TreeMap<>();
+        StringBuilder body = new StringBuilder();
+        for (String line : lines) {
+            Matcher head = Pattern.compile("( {4}| {8})[A-Za-z].*?(\\w+)\\([^()]*\\) \\{").matcher(line);
+            if (head.matches()) {
+                body = bodies.computeIfAbsent(head.group(2), name -> new StringBuilder());
+            } else {
+                body.append(line).append('\n');
+            }
+        }
+        Map<String, Set<String>> calls = new TreeMap<>();
+        bodies.forEach((name, inside) -> {
+            Set<String> called = new TreeSet<>();
+            Matcher m = Pattern.compile("(\\w+)\\(").matcher(inside);
+            while (m.find()) if (bodies.containsKey(m.group(1))) called.add(m.group(1));
+            calls.put(name, called);
+        });
+        check(calls.size() > 150, "the methods are seen");
+        for (String name : calls.keySet()) {
+            int deep = deepest(name, calls, new HashSet<>());
+            check(deep <= 8, "11: calls from " + name + " go " + deep + " deep");
+        }
+    }
+
+    private static int deepest(String name, Map<String, Set<String>> calls, Set<String> open) {
+        if (!open.add(name)) return 0;
+        int most = 0;
+        for (String next : calls.get(name)) most = Math.max(most, deepest(next, calls, open));
+        open.remove(name);
+        return most + 1;
     }
 
     /** Methods begin and end at their own indentation here. */

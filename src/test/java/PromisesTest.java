@@ -682,6 +682,7 @@ public final class PromisesTest {
         beingGreedy();
         laying();
         nodes();
+        changesBetween();
     }
 
     private static String order(ClauseIndex x) {
@@ -792,6 +793,44 @@ public final class PromisesTest {
         // 24 unlike clauses, each of a row of its own from the first feature on or the second one
         x = mostNodes();
         due("nodes", x.nodes(), 1 + 24 * 2 + 5);
+    }
+
+    /** What the tree, and what covers what, was asked for before must not be told of other clauses. */
+    private static void changesBetween() {
+        ClauseIndex x = Talk.of("p(a)");
+        x.lay(0);
+        promise = 30;
+        due("nodes", x.nodes(), 2);
+        promise = 31;
+        Talk.add(x, "r");
+        due("node", x.node(0, 2), 2);
+        promise = 32;
+        Talk.add(x, "p(a)|p(b)");
+        due("at", x.at(2), 3);
+        promise = 35;
+        Talk.add(x, "p(a)|p(b)|p(c)");
+        due("visited", x.visited(1, 1), 5);
+        promise = 36;
+        x.remove(0);
+        due("candidates", x.candidates(1, 1), 2 + 4 + 8);
+        promise = 37;
+        x.remove(3);
+        due("total", x.total(1, 1), 3 + 2);
+        promise = 43;
+        x.unlay();
+        due("tops", x.tops(0), 2 + 4);
+        Talk.add(x, "");
+        due("tops", x.tops(0), 1);
+        x.remove(0);
+        due("tops", x.tops(0), 2 + 4);
+        x.query(0);
+        x.keep();
+        due("tops", x.tops(0), 1);
+        due("pairs", x.pairs(0, 1), 2);
+        due("clean", x.clean(0), 2);
+        due("pairs", x.pairs(0, 1), 0);
+        x.undo(1);
+        due("pairs", x.pairs(0, 1), 2);
     }
 
     /** 24 clauses of unlike values of 0 (1 to 5) and 14. */
