@@ -1163,6 +1163,7 @@ public final class ClauseIndex {
         private int enough;
         private int found;
         private int put;
+        private int taken;
         private boolean apart;
         private boolean renaming;
 
@@ -1228,6 +1229,7 @@ public final class ClauseIndex {
             enough = 1;
             found = 0;
             put = 0;
+            taken = 0;
         }
 
         /** Tries places for literal i and those behind it; as soon as enough is found, all stays as it is then. */
@@ -1239,7 +1241,8 @@ public final class ClauseIndex {
             if (i < 0 || i >= MOST_LITERALS) {
                 return;
             }
-            int before = put;
+            int putBefore = put;
+            int takenBefore = taken;
             for (int j = 0; j < d.size(); j++) {
                 if ((free >> j & 1) == 1 && fits(c, d, i, j)) {
                     row[i] = j;
@@ -1248,7 +1251,8 @@ public final class ClauseIndex {
                         return;
                     }
                 }
-                put = before;
+                put = putBefore;
+                taken = takenBefore;
             }
         }
 
@@ -1276,22 +1280,16 @@ public final class ClauseIndex {
             if (isPut(v)) {
                 return d.sameRun(terms[v], q, behind - q);
             }
-            if (v < 0 || v >= VARIABLES || renaming && !isFreeName(d, d.codeAt(q))) {
+            int name = d.codeAt(q) - FIRST_VARIABLE;
+            if (v < 0 || v >= VARIABLES || renaming && (name < 0 || (taken >> name & 1) == 1)) {
                 return false;
             }
             terms[v] = q;
             put |= 1 << v;
-            return true;
-        }
-
-        /** Whether a code is a variable's that is put for none yet. */
-        private boolean isFreeName(Clause d, int code) {
-            for (int v = 0; v < VARIABLES; v++) {
-                if ((put >> v & 1) == 1 && d.codeAt(terms[v]) == code) {
-                    return false;
-                }
+            if (renaming) {
+                taken |= 1 << name;
             }
-            return code >= FIRST_VARIABLE;
+            return true;
         }
     }
 

@@ -131,7 +131,7 @@ public final class LanguageTest {
         check(calls.size() > 150, "the methods are seen");
         for (String name : calls.keySet()) {
             int deep = deepest(name, calls, new HashSet<>());
-            check(deep <= 8, "11: calls from " + name + " go " + deep + " deep");
+            check(deep <= 7, "11: calls from " + name + " go " + deep + " deep");
         }
     }
 
