@@ -776,7 +776,7 @@ public final class ClauseIndex {
         private final int[] measures = new int[FEATURES];
 
         Clause(Draft draft) {
-            int size = draft.size();
+            int size = Math.max(draft.size(), 0);
             codes = new int[size];
             depths = new int[size];
             ends = new int[size];
