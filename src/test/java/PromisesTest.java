@@ -960,14 +960,15 @@ public final class PromisesTest {
         rates();
 
         promise = 40;
-        x = Talk.of("p(x)|r", "p(a)|p(y)", "p(a)", "r");
-        due("best", x.best(1, 0), leastOfTwo(x, 1, 0));
-        due("best", x.best(1, 1), leastOfTwo(x, 1, 1));
-        due("best", x.best(1, 2), leastOfTwo(x, 1, 2));
-        due("best", x.best(0, 1), leastOfTwo(x, 0, 1));
+        String[] four = {"p(x)|r", "p(a)|p(y)", "p(a)", "r"};
+        x = Talk.of(four);
+        due("best", x.best(1, 0), leastOfTwo(four, 1, 0));
+        due("best", x.best(1, 1), leastOfTwo(four, 1, 1));
+        due("best", x.best(1, 2), leastOfTwo(four, 1, 2));
+        due("best", x.best(0, 1), leastOfTwo(four, 0, 1));
         due("order stays", x.order(0), -1);
         x.lay(39);
-        due("best has nothing to do with order", x.best(0, 2), leastOfTwo(x, 0, 2));
+        due("best has nothing to do with order", x.best(0, 2), leastOfTwo(four, 0, 2));
         due("best of none", new ClauseIndex().best(1, 0), 0);
         due("best of none", new ClauseIndex().best(1, 1), 0);
         due("best of none", new ClauseIndex().best(1, 2), 1);
@@ -992,16 +993,27 @@ public final class PromisesTest {
         }
     }
 
-    private static int leastOfTwo(ClauseIndex kept, int mode, int what) {
+    /** All values of the clauses, null where none is kept: each asked of an object that was made for it. */
+    private static int[][] values(String[] texts, int mode) {
+        int[][] values = new int[24][];
+        for (int k = 0; k < texts.length; k++) {
+            ClauseIndex x = Talk.of(texts[k]);
+            values[k] = new int[40];
+            for (int f = 0; f < 40; f++) values[k][f] = x.value(0, f, mode);
+        }
+        return values;
+    }
+
+    private static int leastOfTwo(String[] texts, int mode, int what) {
+        int[][] values = values(texts, mode);
         int[] best = {HIGHEST, 0, 0};
         for (int f = 0; f < 40; f++) {
             for (int g = f + 1; g < 40; g++) {
                 int left = 0;
                 for (int a = 0; a < 24; a++) {
                     for (int b = 0; b < 24; b++) {
-                        if (a != b && kept.literals(a) >= 0 && kept.literals(b) >= 0
-                            && kept.value(a, f, mode) <= kept.value(b, f, mode)
-                            && kept.value(a, g, mode) <= kept.value(b, g, mode)) left++;
+                        if (a != b && values[a] != null && values[b] != null
+                            && values[a][f] <= values[b][f] && values[a][g] <= values[b][g]) left++;
                     }
                 }
                 if (left < best[0]) best = new int[] {left, f, g};

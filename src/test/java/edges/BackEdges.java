@@ -21,13 +21,13 @@ final class BackEdges {
 
     /** A call that can be undone: one more can be, and undone all is as it was ahead of it. */
     private static void undone(String call, Supplier<ClauseIndex> made, ToIntFunction<ClauseIndex> ask, int answer) {
-        ClauseIndex left = made.get();
         ClauseIndex asked = made.get();
-        int can = left.count(4);
+        int can = asked.count(4);
         Sentences.due(call, ask.applyAsInt(asked), answer);
         Sentences.due("count(4) behind " + call, asked.count(4), can + 1);
         Sentences.due("undo(1) behind " + call, asked.undo(1), can);
-        Sentences.due("all behind undoing " + call, Sentences.kept(asked), Sentences.kept(left));
+        Supplier<ClauseIndex> undone = Sentences.behind(Sentences.behind(made, ask), x -> x.undo(1));
+        Sentences.due("all behind undoing " + call, Sentences.kept(undone), Sentences.kept(made));
     }
 
     /** A call that isn't refused, and still none that can be undone. */
@@ -132,13 +132,13 @@ final class BackEdges {
             Sentences.due("undo one more", x.undo(1), -3);
         }
         x = new ClauseIndex();
-        for (int i = 0; i < 200; i++) {
+        for (int i = 0; i < 120; i++) {
             x.lay(i % 40);
             if (x.count(3) == 8) for (int j = 0; j < 8; j++) x.unlay();
         }
         Sentences.due("count(4) behind hundreds", x.count(4), 10);
         int last = x.order(0);
-        Sentences.due("nothing is laid behind 200", last, -1);
+        Sentences.due("nothing is laid behind 120", last, -1);
         Sentences.due("undo", x.undo(8), 2);
         Sentences.due("order", Sentences.order(x), "32 33 34 35 36 37 38 39");
         Sentences.due("undo", x.undo(2), 0);
@@ -183,6 +183,17 @@ final class BackEdges {
             Sentences.due("all", Sentences.now(x), then + "0 order 9 query 106 3; 0: 100 23; 1: 104\n");
             Sentences.due("nothing can be undone", x.undo(1), -3);
             Sentences.due("the tape stays", x.count(5), 20);
+            // what comes behind it can be undone, back to the image and no further; the image stays what it is
+            x.remove(1);
+            x.unlay();
+            Sentences.due("count(4)", x.count(4), 2);
+            Sentences.due("undo", x.undo(2), 0);
+            Sentences.due("all", Sentences.now(x), then + "0 order 9 query 106 3; 0: 100 23; 1: 104\n");
+            Sentences.due("nothing more can be undone", x.undo(1), -3);
+            x.clean(0);
+            x.remove(0);
+            Sentences.due("restore again", x.restore(i), 0);
+            Sentences.due("all again", Sentences.now(x), then + "0 order 9 query 106 3; 0: 100 23; 1: 104\n");
         }
     }
 

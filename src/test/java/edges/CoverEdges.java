@@ -170,6 +170,9 @@ final class CoverEdges {
         // the first way of mode 1 is none of this kind, a later one is
         alike("p(x)|p(f(y))", "p(f(y))|p(x)", 1);
         alike("p(x)|p(a)", "p(a)|p(x)", 1);
+        // a name that an attempt in vain has taken is free again
+        alike("q(x,a)|q(x,b)", "q(u,b)|q(u,a)", 1);
+        alike("q(x,y)|p(f(x))|q(y,b)", "q(u,b)|q(v,u)|p(f(v))", 1);
         alike("q(u,v)|q(w,x)|q(y,z)", "q(z,y)|q(x,w)|q(v,u)", 1);
         alike("q(u,v)|q(w,x)|q(y,u)", "q(z,y)|q(x,w)|q(v,u)", 0);
         alike("q(u,v)|q(v,w)|q(w,x)|q(x,y)|q(y,u)", "q(a,v)|q(v,w)|q(w,x)|q(x,y)|q(y,a)", 0);

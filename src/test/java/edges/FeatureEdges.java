@@ -101,18 +101,18 @@ final class FeatureEdges {
     private static void neverAbove() {
         String[] texts = {"", "p(x)", "p(x)|p(y)", "p(f(a))", "p(f(a))|-r", "q(x,y)|q(y,z)", "q(x,x)", "q(f(a),f(a))|p(f(f(b)))",
             "-s(e)|-s(x)", "-s(e)", "p(a)|p(a)|p(b)", "r|r|-r"};
-        ClauseIndex x = Talk.of(texts);
-        for (int a = 0; a < texts.length; a++) {
-            for (int b = 0; b < texts.length; b++) {
+        for (String c : texts) {
+            for (String d : texts) {
+                ClauseIndex y = Talk.of(c, d);
                 for (int mode = 0; mode < 2; mode++) {
-                    if (x.covers(a, b, mode) != 1) continue;
+                    if (y.covers(0, 1, mode) != 1) continue;
                     int above = 0;
-                    for (int f = 0; f < 40; f++) if (x.value(a, f, mode) > x.value(b, f, mode)) above++;
-                    Sentences.due("values of " + texts[a] + " above those of " + texts[b], above, 0);
+                    for (int f = 0; f < 40; f++) if (y.value(0, f, mode) > y.value(1, f, mode)) above++;
+                    Sentences.due("values of " + c + " above those of " + d, above, 0);
                 }
             }
         }
-        x = Talk.of("p(a)|p(a)", "p(a)");
+        ClauseIndex x = Talk.of("p(a)|p(a)", "p(a)");
         Sentences.due("by sets it covers", x.covers(0, 1, 0), 1);
         Sentences.due("by sets", x.value(0, 0, 0) - x.value(1, 0, 0), 0);
         Sentences.due("by numbers it is above, but doesn't cover", x.covers(0, 1, 1), 0);

@@ -147,22 +147,27 @@ final class OrderEdges {
         }
     }
 
-    /** The document's words taken as calls: lay each feature, look at pairs(), take it away again. */
+    /** The document's words taken as calls: lay each feature behind those found so far, and look at pairs(). */
     private static ClauseIndex stepByStep(int n, int mode) {
-        ClauseIndex x = four();
+        int[] found = new int[n];
         for (int i = 0; i < n; i++) {
-            int best = -1;
             int least = HIGHEST;
             for (int f = 0; f < 40; f++) {
+                ClauseIndex x = fourBy(found, i);
                 if (x.lay(f) < 0) continue;
-                if (x.pairs(mode, 0) < least) {
-                    least = x.pairs(mode, 0);
-                    best = f;
+                int pairs = x.pairs(mode, 0);
+                if (pairs < least) {
+                    least = pairs;
+                    found[i] = f;
                 }
-                x.unlay();
             }
-            x.lay(best);
         }
+        return fourBy(found, n);
+    }
+
+    private static ClauseIndex fourBy(int[] features, int n) {
+        ClauseIndex x = four();
+        for (int i = 0; i < n; i++) x.lay(features[i]);
         return x;
     }
 

@@ -293,6 +293,14 @@ final class PairEdges {
         Sentences.due("the query, 0", x.alike(24, 0), 1);
         Sentences.due("0, the query", x.alike(0, 24), 1);
         Sentences.due("the query, 2", x.alike(24, 2), 0);
+        // it leaves nothing behind for those that put terms
+        Sentences.due("alike", x.alike(0, 5), 0);
+        Sentences.due("covers", x.covers(0, 5, 1), 1);
+        Sentences.due("covers", x.covers(0, 3, 0), 1);
+        Sentences.due("doubles", x.doubles(), 1);
+        Sentences.due("ways", x.ways(0, 5, 1), 1);
+        Sentences.due("alike", x.alike(0, 1), 1);
+        Sentences.due("single", x.single(0, 5), 3);
         Sentences.sentence("-2.");
         for (int k : NO_CLAUSE) {
             Sentences.refused("alike(" + k + ", 0)", -2, Sentences::busy, y -> y.alike(k, 0));

@@ -187,6 +187,13 @@ final class SearchEdges {
             Sentences.due("of two like ones", Talk.of("r", "r").pairs(1, what), 2);
             Sentences.due("of 24 like ones", Sentences.keeping(24).pairs(1, what), 552);
         }
+        // those that are no more count no more
+        ClauseIndex fewer = Talk.of("p(x)", "p(a)", "p(y)");
+        for (int mode = 0; mode < 2; mode++) Sentences.due("of three", fewer.pairs(mode, 1), 4);
+        fewer.remove(1);
+        for (int mode = 0; mode < 2; mode++) Sentences.due("of two", fewer.pairs(mode, 1), 2);
+        fewer.remove(0);
+        for (int mode = 0; mode < 2; mode++) Sentences.due("of one", fewer.pairs(mode, 1), 0);
         Sentences.sentence("-2: the MODE, what.");
         for (int n : NO_MODE) {
             Sentences.refused("pairs by " + n, -2, Sentences::busy, y -> y.pairs(n, 0));
@@ -201,6 +208,11 @@ final class SearchEdges {
         Sentences.due("of one", Talk.of("r").rate(1), 0);
         Sentences.due("1", Talk.of("r", "r").rate(0), 0x3f800000);
         Sentences.due("a half", Talk.of("p(x)", "p(a)").rate(0), 0x3f000000);
+        ClauseIndex one = Talk.of("p(x)", "p(a)");
+        one.lay(14);
+        Sentences.due("pairs are one", one.pairs(1, 0), 1);
+        Sentences.due("1 of 1", one.rate(1), 0x3f800000);
+        Sentences.due("1 of 1", one.rate(0), 0x3f800000);
         Sentences.due("0 of 2", Talk.of("r", "-r").rate(0), 0);
         ClauseIndex none = Talk.of("p(a)|r", "s(a)|-r");
         none.lay(4);
@@ -256,9 +268,9 @@ final class SearchEdges {
     }
 
     private static int[] bestByLaying(String[] texts, int mode) {
-        ClauseIndex x = Talk.of(texts);
         int[] best = {HIGHEST, -1, -1};
         for (int f = 0; f < 40; f++) {
+            ClauseIndex x = Talk.of(texts);
             x.lay(f);
             for (int g = f + 1; g < 40; g++) {
                 x.lay(g);
@@ -266,7 +278,6 @@ final class SearchEdges {
                 if (pairs < best[0]) best = new int[] {pairs, f, g};
                 x.unlay();
             }
-            x.unlay();
         }
         return best;
     }
@@ -351,6 +362,7 @@ final class SearchEdges {
         Sentences.row("by numbers", i -> y.chain(1, i), 0, 2, 3, 4, 1, -1);
         Sentences.due("how many by sets", y.chain(0, -1), 3);
         Sentences.row("by sets", i -> y.chain(0, i), 0, 2, 1, 0, -1);
+        chainsAmongOthers();
         longest();
         Sentences.sentence("NONE: not so many;");
         Sentences.each("not so many", i -> y.chain(1, i), -1, 4, 5, 24, HIGHEST);
@@ -365,6 +377,27 @@ final class SearchEdges {
             Sentences.refused("chain of " + i, -3, Sentences::busy, z -> z.chain(0, i));
             Sentences.due("chain without clauses of " + i, new ClauseIndex().chain(0, i), -3);
         }
+    }
+
+    private static void chainsAmongOthers() {
+        // over all is 0; right below it a short chain of lower numbers and a longer one, told from the top on
+        ClauseIndex x = Talk.of("", "r", "p(x)", "p(f(x))", "p(f(f(x)))", "r|-r");
+        for (int mode = 0; mode < 2; mode++) {
+            int by = mode;
+            Sentences.due("how many", x.chain(mode, -1), 4);
+            Sentences.row("past the short one", i -> x.chain(by, i), 0, 0, 2, 3, 4, -1);
+        }
+        // what was the longest one is none any more
+        ClauseIndex y = Talk.of("r", "r|-r", "p(x)", "p(f(x))", "p(f(a))");
+        Sentences.row("the longest", i -> y.chain(1, i), -1, 3, 2, 3, 4, -1);
+        y.remove(4);
+        Sentences.row("as long ones", i -> y.chain(1, i), -1, 2, 0, 1, -1);
+        y.undo(1);
+        Sentences.row("the longest again", i -> y.chain(1, i), -1, 3, 2, 3, 4, -1);
+        ClauseIndex z = Talk.of("p(x)", "r", "r|-r", "p(a)");
+        Sentences.row("as long ones", i -> z.chain(0, i), -1, 2, 0, 3, -1);
+        z.remove(3);
+        Sentences.row("the one left", i -> z.chain(0, i), -1, 2, 1, 2, -1);
     }
 
     /** 24 clauses that are one chain, kept from the least general one on: its row goes down from 23. */

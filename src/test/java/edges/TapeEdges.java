@@ -31,7 +31,7 @@ final class TapeEdges {
         Sentences.due("fault(1)", x.fault(1), -1);
         // what one object keeps another one doesn't
         ClauseIndex y = Sentences.busy();
-        Sentences.due("all of another one", Sentences.all(new ClauseIndex()), Sentences.all(x));
+        Sentences.due("all of another one", Sentences.now(new ClauseIndex()), Sentences.now(x));
         Sentences.due("count(0)", y.count(0), 2);
     }
 

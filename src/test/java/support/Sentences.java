@@ -110,41 +110,56 @@ final class Sentences {
 
     /** Of two objects made alike one gets a call that is refused: nothing tells them apart behind it. */
     static void refused(String call, int code, Supplier<ClauseIndex> made, ToIntFunction<ClauseIndex> ask) {
-        ClauseIndex left = made.get();
-        ClauseIndex asked = made.get();
-        due(call, ask.applyAsInt(asked), code);
-        due("all behind " + call, all(asked), all(left));
+        due(call, ask.applyAsInt(made.get()), code);
+        due("all behind " + call, all(behind(made, ask)), all(made));
+    }
+
+    /** An object as another one, and behind a call. */
+    static Supplier<ClauseIndex> behind(Supplier<ClauseIndex> made, ToIntFunction<ClauseIndex> ask) {
+        return () -> {
+            ClauseIndex x = made.get();
+            ask.applyAsInt(x);
+            return x;
+        };
     }
 
     /** The same of a call that reads a text in vain: the tape is empty then, and fault() tells of that text. */
     static void refusedText(String call, int code, Supplier<ClauseIndex> made, String text, ToIntFunction<ClauseIndex> ask) {
-        ClauseIndex left = made.get();
+        ToIntFunction<ClauseIndex> fedAndAsked = x -> {
+            Talk.feed(x, text);
+            return ask.applyAsInt(x);
+        };
         ClauseIndex asked = made.get();
-        Talk.feed(asked, text);
-        due(call + " of " + text, ask.applyAsInt(asked), code);
+        due(call + " of " + text, fedAndAsked.applyAsInt(asked), code);
         due("the tape behind " + call, asked.count(5), 0);
-        due("all but the tape behind " + call + " of " + text, kept(asked), kept(left));
+        due("all but the tape behind " + call + " of " + text, kept(behind(made, fedAndAsked)), kept(made));
     }
 
-    /** All that an object tells, its tape (of which 7 bytes are read), what can be undone and its images, too: they are used up. */
-    static String all(ClauseIndex x) {
+    /**
+     * All that an object tells, its tape (of which 7 bytes are read), what can be undone and its images, too. It is made
+     * anew for each look, so that none is used for more calls than the document's 512.
+     */
+    static String all(Supplier<ClauseIndex> made) {
+        ClauseIndex x = made.get();
         StringBuilder told = new StringBuilder();
         told.append("fault ").append(x.fault(0)).append(' ').append(x.fault(1)).append('\n');
         int tape = x.count(5);
-        String rest = kept(x);
         int answer = x.query(Math.min(tape, 7));
         told.append("tape ").append(tape).append(' ').append(answer).append(' ').append(x.fault(1)).append(' ').append(Talk.codes(x, 24));
-        return told.append('\n').append(rest).toString();
+        return told.append('\n').append(kept(made)).toString();
     }
 
-    /** The same without the tape and the fault; the tape stays. */
-    static String kept(ClauseIndex x) {
-        StringBuilder told = new StringBuilder(now(x));
-        told.append("undone ");
-        for (int i = 0; i < 10 && x.count(4) > 0; i++) {
-            told.append(x.undo(1)).append(" left\n").append(now(x));
+    /** The same without the tape and the fault. */
+    static String kept(Supplier<ClauseIndex> made) {
+        ClauseIndex first = made.get();
+        int undone = first.count(4);
+        StringBuilder told = new StringBuilder(now(first));
+        for (int n = 1; n <= undone; n++) {
+            ClauseIndex x = made.get();
+            told.append(n).append(" undone, left ").append(x.undo(n)).append('\n').append(now(x));
         }
         for (int i = 0; i < 2; i++) {
+            ClauseIndex x = made.get();
             told.append("image ").append(x.restore(i)).append('\n').append(now(x));
         }
         return told.toString();

@@ -44,8 +44,10 @@ final class Talk {
     /** A clause's codes as a row. */
     static String codes(ClauseIndex x, int k) {
         StringBuilder row = new StringBuilder();
-        for (int i = 0; x.code(k, i) >= 0; i++) {
-            row.append(i == 0 ? "" : " ").append(x.code(k, i));
+        int code = x.code(k, 0);
+        for (int i = 1; code >= 0; i++) {
+            row.append(i == 1 ? "" : " ").append(code);
+            code = x.code(k, i);
         }
         return row.toString();
     }
