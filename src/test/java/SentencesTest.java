@@ -1,9 +1,10 @@
-/** Every sentence of the document's terms and promises by itself: what it says, and above all its edges. */
+/** Every sentence of the document by itself: what it says, and above all its edges. */
 public final class SentencesTest {
     private SentencesTest() { }
 
     public static void main(String[] args) throws java.io.IOException {
         Sentences.open();
+        FaceEdges.run();
         TextEdges.run();
         CoverEdges.run();
         FeatureEdges.run();

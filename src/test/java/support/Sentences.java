@@ -12,13 +12,14 @@ import java.util.regex.Pattern;
 
 /**
  * The document's sentences, and what is checked of each: a test says which sentence it is about, in the document's
- * own words. At the end every word of the document's terms and promises must have been some test's sentence.
+ * own words. At the end every word of the document but for what it doesn't promise must have been some test's sentence.
  */
 final class Sentences {
     private static final Path DOC = Path.of("../shared/DOC.md");
 
     private static final Map<String, String> TEXTS = new LinkedHashMap<>();
     private static final Map<String, boolean[]> SEEN = new LinkedHashMap<>();
+    private static final Map<String, String> CALLS = new LinkedHashMap<>();
     private static String section = "";
     private static String sentence = "";
     private static int checksOfIt = 1;
@@ -37,11 +38,29 @@ final class Sentences {
         for (String part : Files.readString(DOC).split("\n## ")) {
             int end = part.indexOf('\n');
             String head = part.substring(0, Math.max(end, 0)).replaceAll(":.*", "");
-            String text = part.substring(Math.max(end, 0)).replaceAll("(?m)^Ahead of the calls .*$", "").replace("```text", "").replace("```", "");
-            text = text.replaceFirst("^\\s*`[^`]*`:", "");
+            String text = part.substring(Math.max(end, 0)).replaceAll("```\\w*", "");
+            Matcher call = Pattern.compile("^\\s*`([^`]*)`:").matcher(text);
+            if (call.find()) {
+                CALLS.put(head, call.group(1));
+                text = text.substring(call.end());
+            }
             TEXTS.put(head, plain(text));
             SEEN.put(head, new boolean[plain(text).length()]);
         }
+    }
+
+    /** What stands under a head of the document; empty without the document. */
+    static String under(String head) {
+        return TEXTS.getOrDefault(head, "");
+    }
+
+    /** The call that each promise tells of, by the promise's head; none without the document. */
+    static Map<String, String> calls() {
+        return CALLS;
+    }
+
+    static void head(String name) {
+        section = name;
     }
 
     private static String plain(String text) {
@@ -226,7 +245,7 @@ final class Sentences {
         closeSentence();
         List<String> left = new ArrayList<>();
         SEEN.forEach((head, seen) -> {
-            if (!head.equals("Terms") && !head.startsWith("Promise ")) return;
+            if (head.startsWith("# ") || head.equals("Not promised")) return;
             String text = TEXTS.get(head);
             StringBuilder rest = new StringBuilder();
             for (int i = 0; i < seen.length; i++) if (!seen[i]) rest.append(text.charAt(i));
